@@ -9,11 +9,15 @@ public final class LanguageTest {
         trim();
         tokens();
         grammar();
+        cutAndGoOn();
+        names();
         depth();
         manyTokens();
         laterErrors();
         orderOfErrors();
         teachReplaces();
+        teachOften();
+        teachForgetsYesterday();
         errorStays();
         counts();
         CHECK.end();
@@ -187,6 +191,40 @@ public final class LanguageTest {
         badRule("when 1 = 1 and write 1 of l;", 1, 15);
     }
 
+    /** Behind each token the tape ends, or a new sentence begins: both are wrong but behind a sentence. */
+    private static void cutAndGoOn() {
+        String[] sentences = {"planet c rail 1 speed 1 from 2 retro 1 every 2 ;", "alphabet k pqr ;",
+            "when transit a b or opposite a b and not [ retro a ] write - ( at a ) of l ;",
+            "when 1 + lap a = 2 * length / 3 and day <= 4 - 5 write min ( gap a b , max ( 1 , 2 ) ) % 3 of l ;"};
+        for (String sentence : sentences) {
+            int place = sentence.indexOf(' ');
+            while (place >= 0) {
+                String part = sentence.substring(0, place);
+                badRule(part, 1, place);
+                badRule(part + "\n", 1, place + 1);
+                badRule(part + " planet d rail 1 speed 1;", 1, place + 1);
+                badRule(part + " alphabet d xy;", 1, place + 1);
+                badRule(part + " when 1 = 1 write 1 of l;", 1, place + 1);
+                badRule(part + " ?", 1, place + 1);
+                place = sentence.indexOf(' ', place + 1);
+            }
+            badRule(sentence + " ?", 1, sentence.length() + 1);
+            fine(TWO + sentence + " planet d rail 1 speed 1;");
+        }
+    }
+
+    /** Names that are alike are not the same. */
+    private static void names() {
+        String[] names = {"a", "aa", "aaa", "b", "ab", "ba", "z", "z0", "z9", "a0", "a1", "a00", "aaaaaaaaaaaa",
+            "aaaaaaaaaaab", "baaaaaaaaaaa", "zzzzzzzzzzzz", "z99999999999", "z99999999990"};
+        for (String one : names) {
+            for (String other : names) {
+                String text = "planet " + one + " rail 1 speed 1; planet ";
+                text(text + other + " rail 1 speed 1;", one.equals(other) ? 2 : 0, one.equals(other) ? text.length() : -1);
+            }
+        }
+    }
+
     private static void depth() {
         for (int n = 7; n <= 9; n++) {
             boolean isFine = n <= 8;
@@ -327,6 +365,27 @@ public final class LanguageTest {
         CHECK.due("teach() of nothing", 0, Texts.teach(spell, ""));
         CHECK.due("no planets", 0, spell.count(1) + spell.count(2) + spell.count(3));
         CHECK.due("day stays", 8, spell.count(0));
+    }
+
+    /** What one text needs is free for the next one. */
+    private static void teachOften() {
+        ShadowSpell spell = new ShadowSpell();
+        for (int i = 1; i <= 12; i++) {
+            String most = "alphabet l abcdefghijkl; when 1 = 1 write " + i + Texts.times(180, "+0") + " of l;";
+            CHECK.due("teach() of a long text", 0, Texts.teach(spell, most));
+            CHECK.due("teach() of a wrong text", 1, Texts.teach(spell, most + ";"));
+            CHECK.due("pass(1)", 1, spell.pass(1));
+            CHECK.due("letter", "abcdefghijkl".charAt(i % 12), spell.byteAt(i - 1));
+        }
+    }
+
+    private static void teachForgetsYesterday() {
+        ShadowSpell spell = Texts.taught("planet a rail 1 speed 10 from 355; planet b rail 1 speed 1;");
+        spell.pass(1);
+        CHECK.due("met, from -5 to 4", true, spell.meets(0, 1, false));
+        CHECK.due("teach()", 0, Texts.teach(spell, "planet a rail 1 speed 1 from 5; planet b rail 1 speed 1 from 1;"));
+        CHECK.due("met, told at 4", false, spell.meets(0, 1, false));
+        CHECK.due("count(7)", 0, spell.count(7));
     }
 
     private static void errorStays() {

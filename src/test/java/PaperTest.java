@@ -246,6 +246,9 @@ public final class PaperTest {
         found(spell, "A", -1);
         found(spell, "x", -1);
         found(spell, "a\u00e1", -1);
+        found(spell, "\0", -1);
+        found(spell, "a\0", -1);
+        found(spell, "a\1", -1);
         found(spell, Texts.times(1000, "ab"), -1);
     }
 
