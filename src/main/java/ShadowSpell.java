@@ -414,7 +414,10 @@ public final class ShadowSpell {
         }
     }
 
-    /** Takes the tape apart into tokens, up to the end or to the first one that is none. */
+    /**
+     * Takes the tape apart into tokens, up to the end or to the first one that is none; then they are taken from the
+     * first one on, and what is told is told of the one in front.
+     */
     private static final class Scanner {
         static final int MOST_TOKENS = 400;
         static final int MOST_WORD = 12;
@@ -433,6 +436,7 @@ public final class ShadowSpell {
         private final long[] words = new long[ROWS];
         private final int[] numbers = new int[ROWS];
         private int rows;
+        private int front;
         private int place;
         private long word;
         private int number;
@@ -442,6 +446,7 @@ public final class ShadowSpell {
         }
 
         void scan() {
+            front = 0;
             place = 0;
             boolean isMore = true;
             for (rows = 0; rows < ROWS && isMore; rows++) {
@@ -460,33 +465,49 @@ public final class ShadowSpell {
             }
         }
 
-        private boolean isRow(int token) {
-            return token >= 0 && token < rows;
+        boolean isAt(Kind kind) {
+            return front < rows && kinds[front] == kind;
         }
 
-        Kind kindOf(int token) {
-            return token >= 0 && token < rows ? kinds[token] : Kind.BAD;
+        Kind kind() {
+            return front < rows ? kinds[front] : Kind.BAD;
         }
 
-        int startOf(int token) {
-            return isRow(token) ? starts[token] : 0;
+        boolean take(Kind kind) {
+            if (front >= rows || kinds[front] != kind) {
+                return false;
+            }
+            front++;
+            return true;
         }
 
-        int lengthOf(int token) {
-            return isRow(token) ? lengths[token] : 0;
+        boolean takeAny() {
+            if (front >= rows) {
+                return false;
+            }
+            front++;
+            return true;
         }
 
-        int signOf(int token, int index) {
-            return isRow(token) ? tape.at(starts[token] + index) : 0;
+        int start() {
+            return front < rows ? starts[front] : 0;
+        }
+
+        int length() {
+            return front < rows ? lengths[front] : 0;
+        }
+
+        int signAt(int index) {
+            return front < rows ? tape.at(starts[front] + index) : 0;
         }
 
         /** A code for a word: two words have one code only if they are equal. */
-        long wordOf(int token) {
-            return isRow(token) ? words[token] : 0;
+        long word() {
+            return front < rows ? words[front] : 0;
         }
 
-        int numberOf(int token) {
-            return isRow(token) ? numbers[token] : 0;
+        int number() {
+            return front < rows ? numbers[front] : 0;
         }
 
         private void skipBlanks() {
@@ -561,11 +582,7 @@ public final class ShadowSpell {
         private final Scanner scanner;
         private final Alphabet letters = new Alphabet();
         private Book book;
-        /** The token in front, and its kind. */
-        private int token;
-        private Kind kind;
         private int error;
-        private int errorToken;
         private int errorPlace;
         /** What the latest number was, or the number of the planet or alphabet that was named latest. */
         private int latest;
@@ -573,7 +590,6 @@ public final class ShadowSpell {
         Reader(Tape tape, Book target) {
             scanner = new Scanner(tape);
             book = target;
-            kind = Kind.END;
         }
 
         int placeOfError() {
@@ -584,46 +600,35 @@ public final class ShadowSpell {
             book = target;
             book.empty();
             scanner.scan();
-            token = 0;
-            kind = scanner.kindOf(token);
             error = 0;
+            errorPlace = -1;
             boolean isText = true;
-            for (int n = 0; n < Scanner.MOST_TOKENS && isText && kind != Kind.END; n++) {
-                if (kind == Kind.PLANET) {
+            for (int n = 0; n < Scanner.MOST_TOKENS && isText && !scanner.isAt(Kind.END); n++) {
+                if (scanner.isAt(Kind.PLANET)) {
                     isText = readPlanet();
-                } else if (kind == Kind.ALPHABET) {
+                } else if (scanner.isAt(Kind.ALPHABET)) {
                     isText = readAlphabet();
                 } else {
-                    isText = kind == Kind.WHEN && readRule();
+                    isText = scanner.isAt(Kind.WHEN) && readRule();
                 }
             }
-            if (!isText || kind != Kind.END) {
+            if (!isText || !scanner.isAt(Kind.END)) {
                 error = NOT_GRAMMAR;
-                errorToken = token;
+                errorPlace = scanner.start();
             }
-            errorPlace = error == 0 ? -1 : scanner.startOf(errorToken);
             return error;
         }
 
-        private void blame(int number, int blamed) {
+        private void blame(int number, int place) {
             if (error == 0) {
                 error = number;
-                errorToken = blamed;
+                errorPlace = place;
             }
-        }
-
-        private boolean take(Kind wanted) {
-            if (kind != wanted) {
-                return false;
-            }
-            token++;
-            kind = scanner.kindOf(token);
-            return true;
         }
 
         /** Takes a token behind which the depth is greater, if it may be. */
         private boolean takeDeeper(Kind wanted, int depth) {
-            return depth < MOST_DEPTH && take(wanted);
+            return depth < MOST_DEPTH && scanner.take(wanted);
         }
 
         private boolean write(int step, int a, int b) {
@@ -632,62 +637,62 @@ public final class ShadowSpell {
         }
 
         private boolean readPlanet() {
-            if (!take(Kind.PLANET) || kind != Kind.NAME) {
+            if (!scanner.take(Kind.PLANET) || !scanner.isAt(Kind.NAME)) {
                 return false;
             }
-            long name = scanner.wordOf(token);
+            long name = scanner.word();
             checkNewName(book.planetNamed(name), book.planets() < Book.MOST_PLANETS);
-            if (!take(Kind.NAME) || !take(Kind.RAIL) || !readNumber(1, 20)) {
+            if (!scanner.take(Kind.NAME) || !scanner.take(Kind.RAIL) || !readNumber(1, 20)) {
                 return false;
             }
             int rail = latest;
-            if (!take(Kind.SPEED) || !readNumber(1, 60)) {
+            if (!scanner.take(Kind.SPEED) || !readNumber(1, 60)) {
                 return false;
             }
             int speed = latest;
             int angle = 0;
-            if (kind == Kind.FROM) {
-                if (!take(Kind.FROM) || !readNumber(0, Planet.CIRCLE - 1)) {
+            if (scanner.isAt(Kind.FROM)) {
+                if (!scanner.take(Kind.FROM) || !readNumber(0, Planet.CIRCLE - 1)) {
                     return false;
                 }
                 angle = latest;
             }
             int retro = 0;
             int every = 1;
-            if (kind == Kind.RETRO) {
-                if (!take(Kind.RETRO) || !readNumber(0, 29)) {
+            if (scanner.isAt(Kind.RETRO)) {
+                if (!scanner.take(Kind.RETRO) || !readNumber(0, 29)) {
                     return false;
                 }
                 retro = latest;
-                if (!take(Kind.EVERY) || !readNumber(retro + 1, 60)) {
+                if (!scanner.take(Kind.EVERY) || !readNumber(retro + 1, 60)) {
                     return false;
                 }
                 every = latest;
             }
             book.addPlanet(name, rail, speed, angle, retro, every);
-            return take(Kind.SEMICOLON);
+            return scanner.take(Kind.SEMICOLON);
         }
 
         private boolean readAlphabet() {
-            if (!take(Kind.ALPHABET) || kind != Kind.NAME) {
+            if (!scanner.take(Kind.ALPHABET) || !scanner.isAt(Kind.NAME)) {
                 return false;
             }
-            long name = scanner.wordOf(token);
+            long name = scanner.word();
             checkNewName(book.alphabetNamed(name), book.alphabets() < Book.MOST_ALPHABETS);
-            if (!take(Kind.NAME) || kind != Kind.NAME) {
+            if (!scanner.take(Kind.NAME) || !scanner.isAt(Kind.NAME)) {
                 return false;
             }
             readLetters();
             book.addAlphabet(name, letters);
-            return take(Kind.NAME) && take(Kind.SEMICOLON);
+            return scanner.take(Kind.NAME) && scanner.take(Kind.SEMICOLON);
         }
 
         private void readLetters() {
             letters.empty();
-            for (int i = 0; i < Scanner.MOST_WORD && i < scanner.lengthOf(token); i++) {
-                int sign = scanner.signOf(token, i);
+            for (int i = 0; i < Scanner.MOST_WORD && i < scanner.length(); i++) {
+                int sign = scanner.signAt(i);
                 if (Scanner.isDigit(sign) || letters.numberOf(sign) >= 0) {
-                    blame(WRONG_LETTERS, token);
+                    blame(WRONG_LETTERS, scanner.start());
                 }
                 letters.add(sign);
             }
@@ -695,58 +700,58 @@ public final class ShadowSpell {
 
         private boolean readRule() {
             if (book.rules() >= Book.MOST_RULES) {
-                blame(TOO_MANY, token);
+                blame(TOO_MANY, scanner.start());
             }
             int test = book.program().size();
-            if (!take(Kind.WHEN) || !readTest(0) || !take(Kind.WRITE)) {
+            if (!scanner.take(Kind.WHEN) || !readTest(0) || !scanner.take(Kind.WRITE)) {
                 return false;
             }
             int sum = book.program().size();
-            if (!readSum(0) || !take(Kind.OF) || !readName(true)) {
+            if (!readSum(0) || !scanner.take(Kind.OF) || !readName(true)) {
                 return false;
             }
             book.addRule(test, sum, latest);
-            return take(Kind.SEMICOLON);
+            return scanner.take(Kind.SEMICOLON);
         }
 
         private void checkNewName(int twin, boolean isRoom) {
             if (twin >= 0) {
-                blame(TOLD_TWICE, token);
+                blame(TOLD_TWICE, scanner.start());
             }
             if (!isRoom) {
-                blame(TOO_MANY, token);
+                blame(TOO_MANY, scanner.start());
             }
         }
 
         private boolean readName(boolean isAlphabet) {
-            if (kind != Kind.NAME) {
+            if (!scanner.isAt(Kind.NAME)) {
                 return false;
             }
-            long name = scanner.wordOf(token);
+            long name = scanner.word();
             latest = isAlphabet ? book.alphabetNamed(name) : book.planetNamed(name);
             if (latest < 0) {
-                blame(UNKNOWN, token);
+                blame(UNKNOWN, scanner.start());
             }
-            return take(Kind.NAME);
+            return scanner.take(Kind.NAME);
         }
 
         private boolean readNumber(int least, int most) {
-            if (kind != Kind.NUMBER) {
+            if (!scanner.isAt(Kind.NUMBER)) {
                 return false;
             }
-            latest = scanner.numberOf(token);
+            latest = scanner.number();
             if (latest < least || latest > most) {
-                blame(OUT_OF_RANGE, token);
+                blame(OUT_OF_RANGE, scanner.start());
             }
-            return take(Kind.NUMBER);
+            return scanner.take(Kind.NUMBER);
         }
 
         private boolean readTest(int depth) {
             if (!readBoth(depth)) {
                 return false;
             }
-            for (int n = 0; n < Scanner.MOST_TOKENS && kind == Kind.OR; n++) {
-                if (!take(Kind.OR) || !readBoth(depth)) {
+            for (int n = 0; n < Scanner.MOST_TOKENS && scanner.isAt(Kind.OR); n++) {
+                if (!scanner.take(Kind.OR) || !readBoth(depth)) {
                     return false;
                 }
                 write(Program.OR, 0, 0);
@@ -758,8 +763,8 @@ public final class ShadowSpell {
             if (!readSingle(depth)) {
                 return false;
             }
-            for (int n = 0; n < Scanner.MOST_TOKENS && kind == Kind.AND; n++) {
-                if (!take(Kind.AND) || !readSingle(depth)) {
+            for (int n = 0; n < Scanner.MOST_TOKENS && scanner.isAt(Kind.AND); n++) {
+                if (!scanner.take(Kind.AND) || !readSingle(depth)) {
                     return false;
                 }
                 write(Program.AND, 0, 0);
@@ -768,36 +773,32 @@ public final class ShadowSpell {
         }
 
         private boolean readSingle(int depth) {
-            if (kind == Kind.NOT) {
+            if (scanner.isAt(Kind.NOT)) {
                 return takeDeeper(Kind.NOT, depth) && readSingle(depth + 1) && write(Program.NOT, 0, 0);
             }
-            if (kind == Kind.OPEN_TEST) {
-                return takeDeeper(Kind.OPEN_TEST, depth) && readTest(depth + 1) && take(Kind.CLOSE_TEST);
+            if (scanner.isAt(Kind.OPEN_TEST)) {
+                return takeDeeper(Kind.OPEN_TEST, depth) && readTest(depth + 1) && scanner.take(Kind.CLOSE_TEST);
             }
-            if (kind == Kind.TRANSIT || kind == Kind.OPPOSITE) {
+            if (scanner.isAt(Kind.TRANSIT) || scanner.isAt(Kind.OPPOSITE)) {
                 return readOfTwo();
             }
-            if (kind == Kind.RETRO) {
-                return take(Kind.RETRO) && readName(false) && write(Program.RETRO, latest, 0);
+            if (scanner.isAt(Kind.RETRO)) {
+                return scanner.take(Kind.RETRO) && readName(false) && write(Program.RETRO, latest, 0);
             }
-            return readComparison(depth);
-        }
-
-        private boolean readComparison(int depth) {
             if (!readSum(depth)) {
                 return false;
             }
-            int step = kind.step();
-            return Program.isComparison(step) && take(kind) && readSum(depth) && write(step, 0, 0);
+            int step = scanner.kind().step();
+            return Program.isComparison(step) && scanner.takeAny() && readSum(depth) && write(step, 0, 0);
         }
 
         private boolean readOfTwo() {
-            int step = kind.step();
-            if (!take(kind) || !readName(false)) {
+            int step = scanner.kind().step();
+            if (!scanner.takeAny() || !readName(false)) {
                 return false;
             }
             int first = latest;
-            int second = token;
+            int second = scanner.start();
             if (!readName(false)) {
                 return false;
             }
@@ -811,9 +812,9 @@ public final class ShadowSpell {
             if (!readProduct(depth)) {
                 return false;
             }
-            for (int n = 0; n < Scanner.MOST_TOKENS && (kind == Kind.PLUS || kind == Kind.MINUS); n++) {
-                int step = kind.step();
-                if (!take(kind) || !readProduct(depth)) {
+            for (int n = 0; n < Scanner.MOST_TOKENS && (scanner.isAt(Kind.PLUS) || scanner.isAt(Kind.MINUS)); n++) {
+                int step = scanner.kind().step();
+                if (!scanner.takeAny() || !readProduct(depth)) {
                     return false;
                 }
                 write(step, 0, 0);
@@ -825,9 +826,9 @@ public final class ShadowSpell {
             if (!readValue(depth)) {
                 return false;
             }
-            for (int n = 0; n < Scanner.MOST_TOKENS && Program.isProduct(kind.step()); n++) {
-                int step = kind.step();
-                if (!take(kind) || !readValue(depth)) {
+            for (int n = 0; n < Scanner.MOST_TOKENS && Program.isProduct(scanner.kind().step()); n++) {
+                int step = scanner.kind().step();
+                if (!scanner.takeAny() || !readValue(depth)) {
                     return false;
                 }
                 write(step, 0, 0);
@@ -836,27 +837,27 @@ public final class ShadowSpell {
         }
 
         private boolean readValue(int depth) {
-            int step = kind.step();
-            if (kind == Kind.NUMBER) {
-                return write(Program.NUMBER, scanner.numberOf(token), 0) && take(kind);
+            int step = scanner.kind().step();
+            if (scanner.isAt(Kind.NUMBER)) {
+                return write(Program.NUMBER, scanner.number(), 0) && scanner.takeAny();
             }
-            if (kind == Kind.DAY || kind == Kind.LENGTH) {
-                return write(step, 0, 0) && take(kind);
+            if (scanner.isAt(Kind.DAY) || scanner.isAt(Kind.LENGTH)) {
+                return write(step, 0, 0) && scanner.takeAny();
             }
-            if (kind == Kind.AT || kind == Kind.LAP) {
-                return take(kind) && readName(false) && write(step, latest, 0);
+            if (scanner.isAt(Kind.AT) || scanner.isAt(Kind.LAP)) {
+                return scanner.takeAny() && readName(false) && write(step, latest, 0);
             }
-            if (kind == Kind.GAP) {
+            if (scanner.isAt(Kind.GAP)) {
                 return readOfTwo();
             }
-            if (kind == Kind.MINUS) {
-                return takeDeeper(kind, depth) && readValue(depth + 1) && write(Program.NEGATE, 0, 0);
+            if (scanner.isAt(Kind.MINUS)) {
+                return takeDeeper(Kind.MINUS, depth) && readValue(depth + 1) && write(Program.NEGATE, 0, 0);
             }
-            if (kind == Kind.MIN || kind == Kind.MAX) {
-                return take(kind) && takeDeeper(Kind.OPEN, depth) && readSum(depth + 1) && take(Kind.COMMA)
-                    && readSum(depth + 1) && take(Kind.CLOSE) && write(step, 0, 0);
+            if (scanner.isAt(Kind.MIN) || scanner.isAt(Kind.MAX)) {
+                return scanner.takeAny() && takeDeeper(Kind.OPEN, depth) && readSum(depth + 1)
+                    && scanner.take(Kind.COMMA) && readSum(depth + 1) && scanner.take(Kind.CLOSE) && write(step, 0, 0);
             }
-            return takeDeeper(Kind.OPEN, depth) && readSum(depth + 1) && take(Kind.CLOSE);
+            return takeDeeper(Kind.OPEN, depth) && readSum(depth + 1) && scanner.take(Kind.CLOSE);
         }
     }
 
@@ -864,11 +865,6 @@ public final class ShadowSpell {
     private static final class Alphabet {
         private final int[] letters = new int[Scanner.MOST_WORD];
         private int size;
-        private long name;
-
-        long name() {
-            return name;
-        }
 
         void empty() {
             size = 0;
@@ -898,8 +894,7 @@ public final class ShadowSpell {
             return -1;
         }
 
-        void tell(long newName, Alphabet other) {
-            name = newName;
+        void copyFrom(Alphabet other) {
             System.arraycopy(other.letters, 0, letters, 0, letters.length);
             size = other.size;
         }
@@ -1052,8 +1047,10 @@ public final class ShadowSpell {
         static final int MOST_RULES = 12;
 
         private final Planet[] planets = new Planet[MOST_PLANETS];
+        private final long[] planetNames = new long[MOST_PLANETS];
         private int planetCount;
         private final Alphabet[] alphabets = new Alphabet[MOST_ALPHABETS];
+        private final long[] alphabetNames = new long[MOST_ALPHABETS];
         private int alphabetCount;
         private final Program program = new Program();
         /** Where in the program the test of a rule begins, where its sum does, and where that ends. */
@@ -1097,14 +1094,16 @@ public final class ShadowSpell {
 
         void addPlanet(long name, int rail, int speed, int angle, int retro, int every) {
             if (planetCount < MOST_PLANETS) {
-                planets[planetCount].tell(name, rail, speed, angle, retro, every);
+                planets[planetCount].tell(rail, speed, angle, retro, every);
+                planetNames[planetCount] = name;
                 planetCount++;
             }
         }
 
         void addAlphabet(long name, Alphabet letters) {
             if (alphabetCount < MOST_ALPHABETS) {
-                alphabets[alphabetCount].tell(name, letters);
+                alphabets[alphabetCount].copyFrom(letters);
+                alphabetNames[alphabetCount] = name;
                 alphabetCount++;
             }
         }
@@ -1121,7 +1120,7 @@ public final class ShadowSpell {
 
         int planetNamed(long name) {
             for (int i = 0; i < planetCount; i++) {
-                if (planets[i].name() == name) {
+                if (planetNames[i] == name) {
                     return i;
                 }
             }
@@ -1130,7 +1129,7 @@ public final class ShadowSpell {
 
         int alphabetNamed(long name) {
             for (int i = 0; i < alphabetCount; i++) {
-                if (alphabets[i].name() == name) {
+                if (alphabetNames[i] == name) {
                     return i;
                 }
             }
@@ -1183,7 +1182,6 @@ public final class ShadowSpell {
         static final int CIRCLE = 360;
         static final int HALF = 180;
 
-        private long name;
         private int rail;
         private int speed;
         private int retro;
@@ -1192,8 +1190,7 @@ public final class ShadowSpell {
         private int angleBefore;
         private int lap;
 
-        void tell(long newName, int newRail, int newSpeed, int newAngle, int newRetro, int newEvery) {
-            name = newName;
+        void tell(int newRail, int newSpeed, int newAngle, int newRetro, int newEvery) {
             rail = newRail;
             speed = newSpeed;
             retro = newRetro;
@@ -1203,7 +1200,6 @@ public final class ShadowSpell {
         }
 
         void copyFrom(Planet other) {
-            name = other.name;
             rail = other.rail;
             speed = other.speed;
             retro = other.retro;
@@ -1216,10 +1212,6 @@ public final class ShadowSpell {
         void putAt(int newAngle) {
             angle = newAngle;
             angleBefore = newAngle;
-        }
-
-        long name() {
-            return name;
         }
 
         int rail() {

@@ -178,6 +178,7 @@ public final class AheadTest {
 
     private static void again() {
         ShadowSpell spell = Texts.taught("planet a rail 1 speed 60; planet b rail 1 speed 40 from 7;");
+        CHECK.due("again(1)", -1, spell.again(1));
         CHECK.due("again(17)", -1, spell.again(17));
         CHECK.due("again(18)", 18, spell.again(18));
         CHECK.due("again(2000)", 18, spell.again(2000));
@@ -222,6 +223,7 @@ public final class AheadTest {
         // 10 days in the one turn, and 1 or 9 of the next one:
         CHECK.due("advise(0, 37)", 9, spell.advise(0, 37));
         CHECK.due("advise(0, 45)", 9, spell.advise(0, 45));
+        CHECK.due("advise(0, 60)", 0, spell.advise(0, 60));
         CHECK.due("advise(1, 20)", 0, spell.advise(1, 20));
         CHECK.due("nothing is changed", before, spell.digest());
         spell.set(0, 155);

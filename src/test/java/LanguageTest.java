@@ -80,6 +80,11 @@ public final class LanguageTest {
         CHECK.due("trim(15)", 15, spell.trim(15));
         CHECK.due("count(4)", 15, spell.count(4));
         CHECK.due("teach(), trimmed", 0, spell.teach());
+        // What was cut off is not read: < stands at the end, not <=.
+        Texts.put(spell, "when 1 <= 2");
+        spell.trim(8);
+        CHECK.due("teach(), trimmed in a token", 1, spell.teach());
+        CHECK.due("errorAt(), trimmed in a token", 8, spell.errorAt());
     }
 
     private static void text(String text, int error, int place) {
