@@ -91,15 +91,9 @@ public final class AheadTest {
 
     private static void limit() {
         for (int from = 0; from < 360; from += 45) {
-            ShadowSpell spell = Texts.taught("planet a rail 1 speed 1 retro 29 every 60;"
-                + "planet b rail 1 speed 1 from " + from + " retro 29 every 58;");
-            int said = spell.next(0, 1, false);
-            int seen = -1;
-            for (int day = 1; day <= 1000 && seen < 0; day++) {
-                spell.pass(1);
-                seen = spell.meets(0, 1, false) ? day : -1;
-            }
-            CHECK.due("next from " + from, seen, said);
+            String text = "planet a rail 1 speed 1 retro 29 every 60;"
+                + "planet b rail 1 speed 1 from " + from + " retro 29 every 58;";
+            CHECK.due("next from " + from, firstMet(text, 0, 0, 1, false), Texts.taught(text).next(0, 1, false));
         }
         for (int day = 19; day <= 21; day++) {
             // Each 60 days the first one falls back by 2, so that it is where the other one is on the day 17 * 60.
@@ -109,19 +103,30 @@ public final class AheadTest {
         }
     }
 
+    /** Behind how many days both are met, up to 1000; each object tells 200 of them, within its 512 calls. */
+    private static int firstMet(String text, int now, int a, int b, boolean isOpposite) {
+        for (int start = 0; start < 1000; start += 200) {
+            ShadowSpell spell = Texts.taught(text);
+            for (int day = 0; day < now + start; day += 100) {
+                spell.pass(Math.min(100, now + start - day));
+            }
+            for (int days = start + 1; days <= start + 200; days++) {
+                spell.pass(1);
+                if (spell.meets(a, b, isOpposite)) {
+                    return days;
+                }
+            }
+        }
+        return -1;
+    }
+
     private static void nextIsAsPass() {
         ShadowSpell spell = Texts.taught(BUSY);
         for (int day = 0; day < 60; day++) {
-            int said = spell.next(day % 4, (day + 1) % 4, day % 3 == 0);
-            CHECK.due("said days", true, said >= 1);
-            ShadowSpell other = Texts.taught(BUSY);
-            other.pass(day + 1);
-            int seen = 1;
-            while (!other.meets(day % 4, (day + 1) % 4, day % 3 == 0)) {
-                other.pass(1);
-                seen++;
-            }
-            CHECK.due("next on the day " + day, seen, said);
+            int a = day % 4;
+            int b = (day + 1) % 4;
+            boolean isOpposite = day % 3 == 0;
+            CHECK.due("next on the day " + day, firstMet(BUSY, day, a, b, isOpposite), spell.next(a, b, isOpposite));
             spell.pass(1);
         }
     }

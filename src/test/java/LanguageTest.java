@@ -88,10 +88,7 @@ public final class LanguageTest {
     }
 
     private static void text(String text, int error, int place) {
-        ShadowSpell spell = new ShadowSpell();
-        CHECK.due("teach() of " + text, error, Texts.teach(spell, text));
-        CHECK.due("errorAt() of " + text, place, spell.errorAt());
-        CHECK.due("count(4) behind teach() of " + text, 0, spell.count(4));
+        Texts.dueError(CHECK, text, error, place);
     }
 
     private static void fine(String text) {
@@ -375,7 +372,7 @@ public final class LanguageTest {
     /** What one text needs is free for the next one. */
     private static void teachOften() {
         ShadowSpell spell = new ShadowSpell();
-        for (int i = 1; i <= 12; i++) {
+        for (int i = 1; i <= 9; i++) {
             String most = "alphabet l abcdefghijkl; when 1 = 1 write " + i + Texts.times(180, "+0") + " of l;";
             CHECK.due("teach() of a long text", 0, Texts.teach(spell, most));
             CHECK.due("teach() of a wrong text", 1, Texts.teach(spell, most + ";"));

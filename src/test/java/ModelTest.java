@@ -1,7 +1,10 @@
 /** Promises 1 to 24: many runs of calls, each answer compared with that of the Model. */
 public final class ModelTest {
     private static final Check CHECK = new Check();
-    private static final int CALLS = 200;
+    /** What later calls answer is free. */
+    private static final int MOST_CALLS = 512;
+    /** A text of 2000 bytes is fed by 100 calls; some more trim it, teach it and compare. */
+    private static final int MOST_AT_ONCE = 110;
 
     interface Call {
         Object answer();
@@ -9,7 +12,7 @@ public final class ModelTest {
 
     public static void main(String[] args) {
         int first = args.length > 0 ? Integer.parseInt(args[0]) : 1;
-        int last = args.length > 1 ? Integer.parseInt(args[1]) : 150;
+        int last = args.length > 1 ? Integer.parseInt(args[1]) : 250;
         int[] errors = new int[8];
         for (int seed = first; seed <= last; seed++) {
             run(seed, errors);
@@ -41,28 +44,32 @@ public final class ModelTest {
         ShadowSpell spell = new ShadowSpell();
         Model model = new Model();
         TextMaker maker = new TextMaker(dice);
-        for (int call = 0; call < CALLS; call++) {
+        int used = 0;
+        for (int call = 0; used + MOST_AT_ONCE <= MOST_CALLS; call++) {
             String at = "run " + seed + ", call " + call + ": ";
             if (call == 0 || dice.isOne(25)) {
                 String text = maker.text();
-                put(spell, model, text);
+                used += put(spell, model, text) + 2;
                 compare(at + "teach() of " + text, model::teach, spell::teach);
                 compare(at + "errorAt() of " + text, model::errorAt, spell::errorAt);
                 // Counted by a second object, since the first one has been taught already.
                 errors[Texts.teach(new ShadowSpell(), text)]++;
             } else if (dice.isOne(12)) {
-                String word = word(dice, spell);
-                put(spell, model, word);
+                String word = word(dice, model);
+                used += put(spell, model, word) + 2;
                 compare(at + "find() of " + word, model::find, spell::find);
                 compare(at + "spells() of " + word, model::spells, spell::spells);
             } else {
                 step(at, dice, spell, model);
+                used++;
             }
             compare(at + "digest()", model::digest, spell::digest);
+            used++;
         }
     }
 
-    private static void put(ShadowSpell spell, Model model, String text) {
+    /** Returns how many calls of the one object that took. */
+    private static int put(ShadowSpell spell, Model model, String text) {
         spell.trim(0);
         model.trim(0);
         Texts.put(spell, text);
@@ -75,28 +82,29 @@ public final class ModelTest {
             model.feed(numbers[0], numbers[1], numbers[2], numbers[3], numbers[4]);
         }
         model.trim(text.length());
+        return (text.length() + 19) / 20 + 3;
     }
 
     /** A word that may well stand on the paper, soon. */
-    private static String word(Dice dice, ShadowSpell spell) {
+    private static String word(Dice dice, Model model) {
         StringBuilder out = new StringBuilder();
         int length = dice.from(0, 3);
-        if (spell.count(5) > 0 && dice.isOne(2)) {
-            int place = dice.below(spell.count(5));
-            for (int i = place; i < spell.count(5) && i < place + length; i++) {
-                out.append((char) spell.byteAt(i));
+        if (model.count(5) > 0 && dice.isOne(2)) {
+            int place = dice.below(model.count(5));
+            for (int i = place; i < model.count(5) && i < place + length; i++) {
+                out.append((char) model.byteAt(i));
             }
             return out.toString();
         }
         for (int i = 0; i < length; i++) {
-            int alphabet = spell.count(2) == 0 ? -1 : dice.below(spell.count(2));
-            out.append(alphabet < 0 ? (char) dice.from(0, 255) : (char) spell.letter(alphabet, 0));
+            int alphabet = model.count(2) == 0 ? -1 : dice.below(model.count(2));
+            out.append(alphabet < 0 ? (char) dice.from(0, 255) : (char) model.letter(alphabet, 0));
         }
         return out.toString();
     }
 
     private static void step(String at, Dice dice, ShadowSpell spell, Model model) {
-        int planets = spell.count(1);
+        int planets = model.count(1);
         int a = dice.isOne(10) ? dice.of(-1, planets, 8, Integer.MIN_VALUE, Integer.MAX_VALUE) : dice.below(planets + 1);
         int b = dice.isOne(10) ? dice.of(-1, planets, 8, Integer.MIN_VALUE, Integer.MAX_VALUE) : dice.below(planets + 1);
         int days = dice.isOne(9) ? dice.of(0, -1, 300, 301, 1, 60, 61, Integer.MAX_VALUE) : dice.from(1, 40);
@@ -125,7 +133,7 @@ public final class ModelTest {
             case 11 -> compare(at + "wrote(" + what + ")", () -> model.wrote(what), () -> spell.wrote(what));
             case 12 -> compare(at + "translate" + told, () -> model.translate(a, b), () -> spell.translate(a, b));
             case 13 -> {
-                int place = dice.from(-1, spell.count(5));
+                int place = dice.from(-1, model.count(5));
                 compare(at + "byteAt(" + place + ")", () -> model.byteAt(place), () -> spell.byteAt(place));
             }
             case 14 -> compare(at + "mean()", model::mean, spell::mean);
@@ -135,7 +143,7 @@ public final class ModelTest {
                 }
             }
             case 16 -> {
-                int n = dice.from(-1, spell.count(4) + 1);
+                int n = dice.from(-1, model.count(4) + 1);
                 compare(at + "trim(" + n + ")", () -> model.trim(n), () -> spell.trim(n));
             }
             default -> compare(at + "pass(" + days + ")", () -> model.pass(days), () -> spell.pass(days));
