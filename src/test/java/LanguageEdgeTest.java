@@ -25,6 +25,7 @@ public final class LanguageEdgeTest {
         retroAndEvery();
         numbersInSums();
         toldAhead();
+        namesByOneSign();
         samePlanet();
         letters();
         mostOfAll();
@@ -244,6 +245,9 @@ public final class LanguageEdgeTest {
         text(TWO + "when --------min(1, 2) = 1 write 1 of l;", 1, TWO.length() + 16);
         fine(TWO + "when --------at a - gap a b = 1 write 1 of l;");
         fine(TWO + "when [[[[[[[[1 - 1 = 2]]]]]]]] write 1 of l;");
+        // A - is in front of a value, a not in front of a single: what stands behind that is as deep as before.
+        fine(TWO + "when -1 * " + deep + " = -1 / " + deep + " write -day % " + deep + " + " + deep + " of l;");
+        fine(TWO + "when not retro a and [[[[[[[[retro a]]]]]]]] or not 1 = 1 and " + deep + " = 1 write 1 of l;");
         text(TWO + "when [[[[[[[[1 = -2]]]]]]]] write 1 of l;", 1, TWO.length() + 17);
         text(TWO + "when [[[[[[[[1 = 2 and not retro a]]]]]]]] write 1 of l;", 1, TWO.length() + 23);
         fine(TWO + "when min(-------1, (((((((2)))))))) = 1 write 1 of l;");
@@ -419,6 +423,7 @@ public final class LanguageEdgeTest {
         text("planet a rail 1 speed 1;planet b rail 1 speed 1;planet a rail 1 speed 1;", 2, 55);
         text("alphabet a x;alphabet a x;", 2, 22);
         fine("planet a rail 1 speed 1;alphabet a x;planet b rail 1 speed 1;alphabet b x;");
+        fine("alphabet a x;planet a rail 1 speed 1;alphabet b x;planet b rail 1 speed 1;");
         fine("alphabet a a;alphabet b a;");
         fine("planet x rail 1 speed 1;alphabet a x;");
         text(TWO + "when retro l write 1 of l;", 3, TWO.length() + 11);
@@ -437,6 +442,32 @@ public final class LanguageEdgeTest {
             text(TWO + "when " + test.replace("#", "c") + " write 1 of l;", 3, place);
             text(TWO + "when " + test.replace("#", "l") + " write 1 of l;", 3, place);
         }
+    }
+
+    /** Two names are one only if all of their bytes are: they differ in the second or the twelfth one, or by one more. */
+    private static void namesByOneSign() {
+        String signs = ALL + "0123456789";
+        for (String ahead : new String[] {"q", "q9zq9zq9zq9"}) {
+            String bare = "planet " + ahead + " rail 1 speed 1;";
+            for (int i = 0; i < signs.length(); i++) {
+                String first = "planet " + ahead + signs.charAt(i) + " rail 1 speed 1;";
+                fine(bare + first);
+                fine(first + bare);
+                for (int k = 0; k < signs.length(); k++) {
+                    String second = "planet " + ahead + signs.charAt(k) + " rail 1 speed 1;";
+                    text(first + second, i == k ? 2 : 0, i == k ? first.length() + 7 : -1);
+                }
+            }
+        }
+        for (int i = 0; i < 25; i++) {
+            for (String end : new String[] {"z", "0", "8", "9"}) {
+                for (String start : new String[] {"", "a", "b", "z", "0"}) {
+                    fine("planet " + ALL.charAt(i) + end + " rail 1 speed 1;planet " + ALL.charAt(i + 1) + start + " rail 1 speed 1;");
+                }
+            }
+        }
+        text("planet az rail 1 speed 1; alphabet az x; when retro a0 write 1 of az;", 3, 52);
+        text("planet az rail 1 speed 1; alphabet az x; when retro az write 1 of a0;", 3, 66);
     }
 
     /** Error 6: "of two planets behind transit, opposite or gap the second one is the first one" */

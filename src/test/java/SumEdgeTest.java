@@ -92,6 +92,9 @@ public final class SumEdgeTest {
         value("-" + told(MOST), LEAST + 1);
         value("- -" + told(LEAST), LEAST);
         value("-0", 0);
+        // It turns the value, not the product: -2147483648 / 2 is not the quotient turned.
+        value("-" + told(LEAST) + " / 2", -1073741824);
+        value("-" + told(LEAST) + " % 10", -8);
     }
 
     /** "/ is cut towards 0 .. 0 with 0 on the right side, and -2147483648 / -1 gives -2147483648" */
