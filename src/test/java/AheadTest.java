@@ -11,8 +11,10 @@ public final class AheadTest {
         nextIsAsPass();
         spells();
         spellsInTime();
+        spellsIsAsPass();
         again();
         againAll();
+        againOnLaterDays();
         advise();
         adviseLeast();
         mean();
@@ -181,6 +183,28 @@ public final class AheadTest {
         CHECK.due("spells() of more than all", -1, spelled(late, Texts.times(600, "a") + "b"));
     }
 
+    /** Pieces of what will be written: spells() tells the day on which find() finds them first. */
+    private static void spellsIsAsPass() {
+        ShadowSpell late = Texts.taught(BUSY);
+        late.pass(7);
+        late.pass(180);
+        String paper = Texts.paper(late);
+        CHECK.due("bytes", true, paper.length() > 30);
+        for (int from = 0; from + 7 < paper.length(); from += 5) {
+            String bytes = paper.substring(from, from + 1 + from % 7);
+            ShadowSpell spell = Texts.taught(BUSY);
+            spell.pass(7);
+            Texts.put(spell, bytes);
+            int said = spell.spells();
+            int days = 0;
+            while (spell.find() < 0 && days < 200) {
+                spell.pass(1);
+                days++;
+            }
+            CHECK.due("spells() of " + bytes, days, said);
+        }
+    }
+
     private static void again() {
         ShadowSpell spell = Texts.taught("planet a rail 1 speed 60; planet b rail 1 speed 40 from 7;");
         CHECK.due("again(1)", -1, spell.again(1));
@@ -214,6 +238,35 @@ public final class AheadTest {
         CHECK.due("again(1800), set", 1800, many.again(1800));
         ShadowSpell laps = Texts.taught("planet a rail 1 speed 60 from 300;");
         CHECK.due("again(6), laps are not asked", 6, laps.again(6));
+    }
+
+    /** Which days are retro hangs on the day of now: reckoned here by the document's own words. */
+    private static void againOnLaterDays() {
+        // Speed, retro, every:
+        int[][] facts = {{30, 2, 5}, {45, 1, 4}, {60, 1, 3}};
+        ShadowSpell spell = Texts.taught("planet a rail 1 speed 30 retro 2 every 5; planet b rail 1 speed 45 from 7 retro 1 every 4;"
+            + "planet c rail 1 speed 60 from 200 retro 1 every 3;");
+        for (int now = 0; now <= 60; now++) {
+            for (int days : new int[] {50, 2000}) {
+                CHECK.due("again(" + days + ") on the day " + now, againBy(facts, now, days), spell.again(days));
+            }
+            spell.pass(1);
+        }
+    }
+
+    private static int againBy(int[][] facts, int now, int within) {
+        int[] moved = new int[facts.length];
+        for (int days = 1; days <= within; days++) {
+            boolean isAgain = true;
+            for (int i = 0; i < facts.length; i++) {
+                moved[i] += (now + days) % facts[i][2] < facts[i][1] ? -facts[i][0] : facts[i][0];
+                isAgain &= moved[i] % 360 == 0;
+            }
+            if (isAgain) {
+                return days;
+            }
+        }
+        return -1;
     }
 
     private static void advise() {

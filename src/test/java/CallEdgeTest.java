@@ -10,6 +10,8 @@ public final class CallEdgeTest {
         setEdges();
         mostOfAll();
         passDays();
+        passInParts();
+        longLife();
         foreseeDays();
         foreseeLaps();
         findEdges();
@@ -152,6 +154,49 @@ public final class CallEdgeTest {
             CHECK.due("the tape stays", 20, spell.count(4));
             CHECK.due("pass(1)", 1, spell.pass(1));
         }
+    }
+
+    /** Days that go by in one call are as days that go by in many. */
+    private static void passInParts() {
+        String text = "planet a rail 3 speed 7 retro 2 every 5; planet b rail 1 speed 41 from 40; planet c rail 2 speed 60 from 200;"
+            + "alphabet l abcdefghijkl; when transit b a or transit b c write at a + day of l; when opposite c a write lap b of l;"
+            + "when retro a write length of l;";
+        for (int days : new int[] {2, 7, 60, 299, 300}) {
+            ShadowSpell whole = Texts.taught(text);
+            ShadowSpell parts = Texts.taught(text);
+            int letters = whole.pass(days);
+            int sum = 0;
+            for (int day = 0; day < days; day++) {
+                sum += parts.pass(1);
+            }
+            CHECK.due("the letters of " + days + " days", sum, letters);
+            CHECK.due("digest() behind " + days + " days", parts.digest(), whole.digest());
+            CHECK.due("there are letters in " + days + " days", true, days == 2 || letters > 0);
+        }
+    }
+
+    /** "An object is used for at most 512 calls": so many of the dearest ones answer as the first one does. */
+    private static void longLife() {
+        ShadowSpell spell = Texts.taught("planet a rail 1 speed 59; planet b rail 1 speed 60 retro 29 every 30; alphabet l xyz;"
+            + "when 1 = 1 write day of l;");
+        for (int i = 1; i <= 160; i++) {
+            CHECK.due("pass(300), the " + i + "th", 300, spell.pass(300));
+            CHECK.due("pass(300), the " + i + "th again", 300, spell.pass(300));
+            CHECK.due("clear(), the " + i + "th", 600, spell.clear());
+        }
+        int day = 96000;
+        CHECK.due("count(0)", day, spell.count(0));
+        CHECK.due("wrote(0)", day, spell.wrote(0));
+        CHECK.dueDouble("mean()", 1, spell.mean());
+        CHECK.due("planet(0, 2)", 59 * day % 360, spell.planet(0, 2));
+        CHECK.due("planet(0, 3)", 59 * day / 360, spell.planet(0, 3));
+        // Of 30 days it goes back by 60 on 29 and on by 60 on one: by 1680 less.
+        int back = -28 * 60 * (day / 30);
+        CHECK.due("planet(1, 2)", Math.floorMod(back, 360), spell.planet(1, 2));
+        CHECK.due("planet(1, 3)", Math.floorDiv(back, 360), spell.planet(1, 3));
+        CHECK.due("foresee(300, 2)", 59 * (day + 300) / 360 + Math.floorDiv(-28 * 60 * (day / 30 + 10), 360), spell.foresee(300, 2));
+        CHECK.due("pass(2)", 2, spell.pass(2));
+        CHECK.due("byteAt(1)", "xyz".charAt((day + 2) % 3), spell.byteAt(1));
     }
 
     /** "days .. 1 to 300", counted from now, not from the day 0. */

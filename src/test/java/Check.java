@@ -25,6 +25,13 @@ final class Check {
         }
     }
 
+    void dueText(String call, String want, String got) {
+        compared++;
+        if (!want.equals(got)) {
+            tell(call + " answered " + got + ", due is " + want);
+        }
+    }
+
     /** A call has to throw exactly this, and must not change what digest() tells. */
     void dueThrow(String call, ShadowSpell spell, Class<?> want, Call made) {
         long before = spell.digest();

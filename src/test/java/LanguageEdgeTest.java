@@ -12,6 +12,8 @@ public final class LanguageEdgeTest {
         bytesInTokens();
         blanksThatAreNeeded();
         longestToken();
+        gluedSymbols();
+        otherWordsAreNames();
         longWords();
         longNumbers();
         deepest();
@@ -157,6 +159,49 @@ public final class LanguageEdgeTest {
         text(TWO + "when 1<\n=2 write 1 of l;", 1, TWO.length() + 8);
         fine("planet planets rail 1 speed 1;planet from1 rail 1 speed 1;planet retroretro rail 1 speed 1;");
         fine("planet a rail 01speed 001;");
+    }
+
+    /** Of two symbols side by side only < = and > = are read as one: all others are as with a blank between. */
+    private static void gluedSymbols() {
+        String[] beginnings = {"when", "when 1", "when (1", "when [retro a", "when min(1", "when 1 =", "alphabet k x", ""};
+        String[] symbols = "( ) [ ] ; , + - * / % < > = <= >=".split(" ");
+        for (String beginning : beginnings) {
+            String front = TWO + beginning + " ";
+            for (String one : symbols) {
+                for (String other : symbols) {
+                    if (other.equals("=") && (one.equals("<") || one.equals(">"))) {
+                        int behind = beginning.equals("when 1") ? 2 : 0;
+                        text(front + one + other, 1, front.length() + behind);
+                    } else {
+                        asApart(front + one, other + " 2");
+                    }
+                }
+            }
+        }
+    }
+
+    private static void asApart(String front, String behind) {
+        ShadowSpell apart = new ShadowSpell();
+        int error = Texts.teach(apart, front + " " + behind);
+        int place = apart.errorAt();
+        text(front + behind, error, place > front.length() ? place - 1 : place);
+    }
+
+    /** "All other words are names." */
+    private static void otherWordsAreNames() {
+        String words = "text rule name number letters test both single sum product value word digit symbol token tape paper sky"
+            + " true false if then else xor nor mod abs plus minus times is to in as by do on up x y z a1 b2c3"
+            + " planets rails speeds retros everyone alphabets whenever writes off transits opposites ate laps gaps days"
+            + " lengths nota andy order mint maxi";
+        for (String word : words.split(" ")) {
+            fine("planet " + word + " rail 1 speed 1; planet other rail 1 speed 1; alphabet " + word + " pqr;"
+                + "when transit " + word + " other and opposite other " + word + " and retro " + word + " write at " + word
+                + " + lap " + word + " + gap " + word + " other of " + word + ";");
+            boolean isTwice = word.chars().distinct().count() < word.length() || word.chars().anyMatch(LanguageEdgeTest::isDigit);
+            text("alphabet other " + word + ";", isTwice ? 7 : 0, isTwice ? 15 : -1);
+            text(word, 1, 0);
+            text("when " + word + " = 1 write 1 of l;", 1, 5);
+        }
     }
 
     /** "at most 12 bytes": a longer word is error 1 at its first byte, wherever it stands. */
