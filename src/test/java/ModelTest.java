@@ -12,7 +12,7 @@ public final class ModelTest {
 
     public static void main(String[] args) {
         int first = args.length > 0 ? Integer.parseInt(args[0]) : 1;
-        int last = args.length > 1 ? Integer.parseInt(args[1]) : 250;
+        int last = args.length > 1 ? Integer.parseInt(args[1]) : 500;
         int[] errors = new int[8];
         for (int seed = first; seed <= last; seed++) {
             run(seed, errors);
@@ -44,7 +44,7 @@ public final class ModelTest {
         ShadowSpell spell = new ShadowSpell();
         Model model = new Model();
         TextMaker maker = new TextMaker(dice);
-        int used = 0;
+        int used = dice.isOne(3) ? daysAhead(seed, dice, spell, model) : 0;
         for (int call = 0; used + MOST_AT_ONCE <= MOST_CALLS; call++) {
             String at = "run " + seed + ", call " + call + ": ";
             if (call == 0 || dice.isOne(25)) {
@@ -59,6 +59,8 @@ public final class ModelTest {
                 used += put(spell, model, word) + 2;
                 compare(at + "find() of " + word, model::find, spell::find);
                 compare(at + "spells() of " + word, model::spells, spell::spells);
+            } else if (dice.isOne(60)) {
+                used += fill(at, dice, spell, model);
             } else {
                 step(at, dice, spell, model);
                 used++;
@@ -66,6 +68,34 @@ public final class ModelTest {
             compare(at + "digest()", model::digest, spell::digest);
             used++;
         }
+    }
+
+    /** Some runs are late: nothing is told yet, but the day is a great one. Returns how many calls that took. */
+    private static int daysAhead(int seed, Dice dice, ShadowSpell spell, Model model) {
+        int times = dice.from(1, 5);
+        for (int i = 0; i < times; i++) {
+            compare("run " + seed + ", ahead: pass(300)", () -> model.pass(300), () -> spell.pass(300));
+        }
+        return times;
+    }
+
+    private static void feed(String at, Dice dice, ShadowSpell spell, Model model) {
+        int[] five = new int[5];
+        for (int i = 0; i < five.length; i++) {
+            five[i] = dice.isOne(2) ? 0x20202020 : dice.from(0, 0xffff) << 16 | dice.from(0, 0xffff);
+        }
+        compare(at + "feed(" + five[0] + ", ..)", () -> model.feed(five[0], five[1], five[2], five[3], five[4]),
+            () -> spell.feed(five[0], five[1], five[2], five[3], five[4]));
+    }
+
+    /** Feeds the tape until it is full, and once more. Returns how many calls that took. */
+    private static int fill(String at, Dice dice, ShadowSpell spell, Model model) {
+        int used = 1;
+        for (; model.count(4) <= 1980; used++) {
+            feed(at, dice, spell, model);
+        }
+        feed(at, dice, spell, model);
+        return used;
     }
 
     /** Returns how many calls of the one object that took. */
@@ -111,7 +141,7 @@ public final class ModelTest {
         boolean is = dice.isOne(2);
         String told = "(" + a + ", " + b + ", " + days + ", " + is + ")";
         int what = dice.from(-1, 8);
-        int turn = dice.below(20);
+        int turn = dice.below(22);
         switch (turn) {
             case 0 -> compare(at + "planet" + told + what, () -> model.planet(a, what), () -> spell.planet(a, what));
             case 1 -> compare(at + "gap" + told, () -> model.gap(a, b), () -> spell.gap(a, b));
@@ -146,6 +176,8 @@ public final class ModelTest {
                 int n = dice.from(-1, model.count(4) + 1);
                 compare(at + "trim(" + n + ")", () -> model.trim(n), () -> spell.trim(n));
             }
+            case 17 -> feed(at, dice, spell, model);
+            case 18 -> compare(at + "errorAt()", model::errorAt, spell::errorAt);
             default -> compare(at + "pass(" + days + ")", () -> model.pass(days), () -> spell.pass(days));
         }
     }

@@ -70,7 +70,7 @@ public final class StayTest {
         parts.put("rules", Texts.paper(spell).substring(paper.length()));
         parts.put("tape", spell.teach() + " " + spell.errorAt() + " " + alphabets(spell) + planets(spell));
         spell.clear();
-        parts.put("tape's rules", spell.pass(100) + Texts.paper(spell));
+        parts.put("tape's rules", spell.pass(60) + Texts.paper(spell));
         return parts;
     }
 

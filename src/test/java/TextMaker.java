@@ -9,6 +9,8 @@ final class TextMaker {
     private int planets;
     private int alphabets;
     private boolean isCareless;
+    /** Short tests and sums leave room for all rules. */
+    private boolean isShort;
 
     TextMaker(Dice dice) {
         this.dice = dice;
@@ -17,15 +19,16 @@ final class TextMaker {
     String text() {
         out.setLength(0);
         isCareless = dice.isOne(4);
-        planets = dice.isOne(12) ? 0 : dice.from(1, isCareless && dice.isOne(4) ? 9 : 8);
-        alphabets = dice.isOne(12) ? 0 : dice.from(1, isCareless && dice.isOne(4) ? 7 : 6);
+        isShort = dice.isOne(6);
+        planets = dice.isOne(12) ? 0 : isCareless && dice.isOne(9) ? 9 : dice.from(1, 8);
+        alphabets = dice.isOne(12) ? 0 : isCareless && dice.isOne(9) ? 7 : dice.from(1, 6);
         for (int i = 0; i < planets; i++) {
             planet(i);
         }
         for (int i = 0; i < alphabets; i++) {
             alphabet(i);
         }
-        int rules = alphabets == 0 ? 0 : dice.from(0, isCareless && dice.isOne(4) ? 13 : 7);
+        int rules = alphabets == 0 ? 0 : isCareless && isShort && dice.isOne(3) ? 13 : dice.from(0, isShort ? 12 : 7);
         for (int i = 0; i < rules && out.length() < 1500; i++) {
             word("when");
             test(0);
@@ -129,7 +132,7 @@ final class TextMaker {
     }
 
     private boolean isDeepEnough(int depth) {
-        return depth >= (isCareless ? 9 : 8) || dice.isOne(2) && depth > 3;
+        return isShort || depth >= (isCareless ? 9 : 8) || dice.isOne(2) && depth > 3;
     }
 
     private void test(int depth) {

@@ -52,7 +52,8 @@ final class Texts {
 
     static String paper(ShadowSpell spell) {
         StringBuilder out = new StringBuilder();
-        for (int i = 0; i < spell.count(5); i++) {
+        int bytes = spell.count(5);
+        for (int i = 0; i < bytes; i++) {
             out.append((char) spell.byteAt(i));
         }
         return out.toString();
